@@ -1,10 +1,13 @@
 import java.util.List;
 import java.util.Random;
 
-/** Runs of seeded calls, at most 512 an object, on KeyRing and on PlainRing: every answer must be the same. */
+/** Runs of seeded calls on KeyRing and on PlainRing: every answer must be the same. */
 public final class ModelTest {
     private static final int RUNS = 2500;
     private static final int CALLS = 400;
+
+    private static int longestLook = 0;
+    private static int wrongRuns = 0;
 
     private final KeyRing ring = new KeyRing();
     private final PlainRing plain = new PlainRing();
@@ -15,9 +18,7 @@ public final class ModelTest {
     // A run on few points makes joins and fails crowd; one on all of them lets hops be long.
     private final int step;
 
-    private static int ownSuccessors = 0;
-    private static int longestLook = 0;
-    private static int wrongFound = 0;
+    private boolean same = true;
 
     private ModelTest(int run) {
         this.run = run;
@@ -26,172 +27,168 @@ public final class ModelTest {
     }
 
     public static void main(String[] args) {
-        for (int run = 0; run < RUNS && wrongFound < 3; run++) {
+        for (int run = 0; run < RUNS && wrongRuns < 3; run++) {
             new ModelTest(run).play();
         }
-        // Without these the runs would pass by the document's rarest edges.
-        Check.due("some member was its own successor", ownSuccessors > 0, true);
+        // Shorter looks alone would pass by most of what hops are about.
         Check.due("some look had four hops or more", longestLook >= 4, true);
         Check.end();
     }
 
     private void play() {
-        boolean same = begin();
+        if (run % 10 == 7) {
+            beginWithAnOwnSuccessor(run % 20 == 7
+                    ? OwnSuccessor.WITH_PREDECESSOR : OwnSuccessor.WITHOUT_PREDECESSOR);
+        } else {
+            begin();
+        }
         for (int i = 0; same && i < CALLS; i++) {
-            same = call();
-            for (int p : plain.livePoints()) {
-                ownSuccessors += plain.isItsOwnSuccessor(p) ? 1 : 0;
-            }
+            call();
         }
         if (same) {
-            same = compareAll();
+            compareAll();
         }
         longestLook = Math.max(longestLook, plain.count(6));
-        if (!same) {
-            wrongFound++;
-        }
+        wrongRuns += same ? 0 : 1;
     }
 
-    private boolean begin() {
-        if (run % 20 == 7) {
-            return beginWithAnOwnSuccessor();
-        }
-        boolean same = true;
+    private void begin() {
         if (random.nextInt(4) > 0) {
-            int r = 2 + random.nextInt(3);
-            same = both("depth(" + r + ")", Check.answer(() -> ring.depth(r)), Check.answer(() -> plain.depth(r)));
+            both("depth", 2 + random.nextInt(3));
         }
         int founders = 1 + random.nextInt(random.nextInt(3) == 0 ? 22 : 8);
-        for (int i = 0; same && i < founders; i++) {
-            int p = somePoint();
-            same = both("found(" + p + ")", Check.answer(() -> ring.found(p)), Check.answer(() -> plain.found(p)));
+        for (int i = 0; i < founders; i++) {
+            both("found", somePoint());
         }
-        if (same && random.nextInt(10) > 0) {
-            same = both("open()", Check.answer(ring::open), Check.answer(plain::open));
+        if (random.nextInt(10) > 0) {
+            both("open");
         }
-        return same;
     }
 
     // Seeded calls hardly ever come to this edge by themselves.
-    private boolean beginWithAnOwnSuccessor() {
-        boolean same = true;
-        for (int[] c : OwnSuccessor.CALLS) {
-            same = same && both(OwnSuccessor.written(c),
-                    Check.answer(() -> OwnSuccessor.call(ring, c)), Check.answer(() -> OwnSuccessor.call(plain, c)));
+    private void beginWithAnOwnSuccessor(OwnSuccessor edge) {
+        for (String call : edge.calls) {
+            compare(call, Calls.answer(ring, call), Calls.answer(plain, call));
         }
-        return same;
+        Check.due("it is its own successor", plain.isItsOwnSuccessor(edge.member), true);
+        if (random.nextBoolean()) {
+            both("stabilise", edge.member);
+        }
     }
 
-    private boolean call() {
-        int p = someMember();
-        int q = somePoint();
-        int key = random.nextInt(30) == 0 ? random.nextInt(80) - 8 : random.nextInt(64);
-        int small = random.nextInt(22) - 2;
+    private void call() {
         switch (random.nextInt(19)) {
             case 0: case 1:
-                return both("join(" + q + ", " + p + ")",
-                        Check.answer(() -> ring.join(q, p)), Check.answer(() -> plain.join(q, p)));
+                both("join", somePoint(), someMember());
+                break;
             case 2: case 3:
-                return both("fail(" + p + ")", Check.answer(() -> ring.fail(p)), Check.answer(() -> plain.fail(p)));
+                both("fail", someMember());
+                break;
             case 4: case 5:
-                return both("stabilise(" + p + ")",
-                        Check.answer(() -> ring.stabilise(p)), Check.answer(() -> plain.stabilise(p)));
+                both("stabilise", someMember());
+                break;
             case 6:
-                return both("mend(" + p + ", " + small + ")",
-                        Check.answer(() -> ring.mend(p, small)), Check.answer(() -> plain.mend(p, small)));
+                both("mend", someMember(), random.nextInt(10) - 1);
+                break;
             case 7:
-                return both("handOver(" + p + ")",
-                        Check.answer(() -> ring.handOver(p)), Check.answer(() -> plain.handOver(p)));
+                both("handOver", someMember());
+                break;
             case 8:
-                return both("spread(" + p + ")",
-                        Check.answer(() -> ring.spread(p)), Check.answer(() -> plain.spread(p)));
+                both("spread", someMember());
+                break;
             case 9:
-                return someRounds();
+                both("rounds", someRounds());
+                break;
             case 10:
-                return both("look(" + p + ", " + q + ")",
-                        Check.answer(() -> ring.look(p, q)), Check.answer(() -> plain.look(p, q)));
+                both("look", someMember(), somePoint());
+                break;
             case 11:
-                return both("hop(" + small + ")",
-                        Check.answer(() -> ring.hop(small)), Check.answer(() -> plain.hop(small)));
+                both("hop", random.nextInt(6) - 1);
+                break;
             case 12: case 13: case 14:
-                int value = random.nextInt(1000) - 20;
-                return both("put(" + p + ", " + key + ", " + value + ")",
-                        Check.answer(() -> ring.put(p, key, value)), Check.answer(() -> plain.put(p, key, value)));
+                both("put", someMember(), someKey(), random.nextInt(1000) - 20);
+                break;
             case 15:
-                return both("get(" + p + ", " + key + ")",
-                        Check.answer(() -> ring.get(p, key)), Check.answer(() -> plain.get(p, key)));
+                both("get", someMember(), someKey());
+                break;
             case 16:
-                int what = random.nextInt(5) - 1;
-                return both("held(" + p + ", " + key + ", " + what + ")",
-                        Check.answer(() -> ring.held(p, key, what)), Check.answer(() -> plain.held(p, key, what)));
+                both("held", someMember(), someKey(), random.nextInt(5) - 1);
+                break;
             case 17:
-                return both("known(" + p + ", " + small + ")",
-                        Check.answer(() -> ring.known(p, small)), Check.answer(() -> plain.known(p, small)));
+                both("known", someMember(), random.nextInt(22) - 2);
+                break;
             default:
-                return rareCall(q);
+                rareCall();
         }
     }
 
-    private boolean rareCall(int q) {
-        int what = random.nextInt(10) - 1;
-        int r = random.nextInt(7);
+    private void rareCall() {
         switch (random.nextInt(6)) {
             case 0:
-                return both("depth(" + r + ")", Check.answer(() -> ring.depth(r)), Check.answer(() -> plain.depth(r)));
+                both("depth", random.nextInt(7));
+                break;
             case 1:
-                return both("found(" + q + ")", Check.answer(() -> ring.found(q)), Check.answer(() -> plain.found(q)));
+                both("found", somePoint());
+                break;
             case 2:
-                return both("open()", Check.answer(ring::open), Check.answer(plain::open));
+                both("open");
+                break;
             case 3:
-                return both("owner(" + q + ")", Check.answer(() -> ring.owner(q)), Check.answer(() -> plain.owner(q)));
+                both("owner", somePoint());
+                break;
             case 4:
-                return both("ideal()", Boolean.toString(ring.ideal()), Boolean.toString(plain.ideal()));
+                both("ideal");
+                break;
             default:
-                return both("count(" + what + ")",
-                        Check.answer(() -> ring.count(what)), Check.answer(() -> plain.count(what)));
+                both("count", random.nextInt(10) - 1);
+        }
+    }
+
+    private void compareAll() {
+        both("ideal");
+        for (int what = 0; what < 8; what++) {
+            both("count", what);
+        }
+        for (int p = 0; p < 256; p += 5) {
+            both("owner", p);
+        }
+        for (int p : plain.livePoints()) {
+            for (int k = -1; k < 18; k++) {
+                both("known", p, k);
+            }
+            for (int i = 0; i < 192; i++) {
+                both("held", p, i / 3, i % 3);
+            }
+        }
+    }
+
+    private void both(String name, int... args) {
+        StringBuilder call = new StringBuilder(name);
+        for (int arg : args) {
+            call.append(' ').append(arg);
+        }
+        compare(call.toString(), Calls.answer(ring, name, args), Calls.answer(plain, name, args));
+    }
+
+    private void compare(String call, String got, String want) {
+        if (!same) {
+            return;
+        }
+        told.append(call).append(" -> ").append(got).append("; ");
+        same = got.equals(want);
+        Check.due("run " + run + ": as PlainRing answers", same, true);
+        if (!same) {
+            System.out.println(told + "due is " + want);
         }
     }
 
     // Many rounds are rare, or every ring would be ideal nearly always.
-    private boolean someRounds() {
-        int n = random.nextInt(12) == 0 ? random.nextInt(44) - 2 : random.nextInt(2);
-        return both("rounds(" + n + ")", Check.answer(() -> ring.rounds(n)), Check.answer(() -> plain.rounds(n)));
+    private int someRounds() {
+        return random.nextInt(12) == 0 ? random.nextInt(44) - 2 : random.nextInt(2);
     }
 
-    private boolean compareAll() {
-        boolean same = both("ideal()", Boolean.toString(ring.ideal()), Boolean.toString(plain.ideal()));
-        for (int what = 0; same && what < 8; what++) {
-            int w = what;
-            same = both("count(" + w + ")", Check.answer(() -> ring.count(w)), Check.answer(() -> plain.count(w)));
-        }
-        for (int p = 0; same && p < 256; p += 5) {
-            int point = p;
-            same = both("owner(" + p + ")",
-                    Check.answer(() -> ring.owner(point)), Check.answer(() -> plain.owner(point)));
-        }
-        for (int p : plain.livePoints()) {
-            for (int k = -1; same && k < 18; k++) {
-                int entry = k;
-                same = both("known(" + p + ", " + k + ")",
-                        Check.answer(() -> ring.known(p, entry)), Check.answer(() -> plain.known(p, entry)));
-            }
-            for (int i = 0; same && i < 192; i++) {
-                int key = i / 3;
-                int what = i % 3;
-                same = both("held(" + p + ", " + key + ", " + what + ")",
-                        Check.answer(() -> ring.held(p, key, what)), Check.answer(() -> plain.held(p, key, what)));
-            }
-        }
-        return same;
-    }
-
-    private boolean both(String call, String got, String want) {
-        told.append(call).append(" -> ").append(got).append("; ");
-        Check.due("an answer", got.equals(want), true);
-        if (!got.equals(want)) {
-            System.out.println("run " + run + ": " + told + "due is " + want);
-        }
-        return got.equals(want);
+    private int someKey() {
+        return random.nextInt(30) == 0 ? random.nextInt(80) - 8 : random.nextInt(64);
     }
 
     private int somePoint() {

@@ -1,62 +1,31 @@
-/** A run of calls, found by search, after which member 22 is the first live one of its own list. */
-final class OwnSuccessor {
-    static final int MEMBER = 22;
+/** Runs of calls, found by search, after which a member is the first live one of its own list. */
+enum OwnSuccessor {
+    /** Its predecessor, 0, is live. */
+    WITH_PREDECESSOR(22, "depth 4, found 33, found 6, found 1, found 14, found 10, open, join 22 6, fail 14, "
+            + "stabilise 22, stabilise 10, join 0 33, fail 6, join 20 22, fail 33, stabilise 1, join 34 22, "
+            + "stabilise 0, stabilise 22, join 26 22, fail 10, fail 1, join 38 34, stabilise 38, stabilise 34, "
+            + "stabilise 0, stabilise 38, stabilise 22, stabilise 22, fail 34, join 30 0, fail 38"),
 
-    private static final int DEPTH = 0;
-    private static final int FOUND = 1;
-    private static final int OPEN = 2;
-    private static final int JOIN = 3;
-    private static final int FAIL = 4;
-    private static final int STABILISE = 5;
+    /** Its predecessor failed. */
+    WITHOUT_PREDECESSOR(9, "depth 4, found 23, found 2, found 11, found 8, found 15, open, join 27 2, fail 15, "
+            + "join 9 11, fail 8, stabilise 27, stabilise 23, join 26 9, stabilise 9, stabilise 2, fail 23, "
+            + "join 20 11, fail 11, stabilise 27, stabilise 9, join 25 20, fail 2, stabilise 25, stabilise 20, "
+            + "stabilise 27, join 24 9, stabilise 25, stabilise 9, stabilise 9, join 7 25, stabilise 7, fail 25, "
+            + "join 0 9, fail 20, fail 7");
 
-    static final int[][] CALLS = {
-        {DEPTH, 4}, {FOUND, 33}, {FOUND, 6}, {FOUND, 1}, {FOUND, 14}, {FOUND, 10}, {OPEN},
-        {JOIN, 22, 6}, {FAIL, 14}, {STABILISE, 22}, {STABILISE, 10}, {JOIN, 0, 33}, {FAIL, 6},
-        {JOIN, 20, 22}, {FAIL, 33}, {STABILISE, 1}, {JOIN, 34, 22}, {STABILISE, 0}, {STABILISE, 22},
-        {JOIN, 26, 22}, {FAIL, 10}, {FAIL, 1}, {JOIN, 38, 34}, {STABILISE, 38}, {STABILISE, 34},
-        {STABILISE, 0}, {STABILISE, 38}, {STABILISE, 22}, {STABILISE, 22}, {FAIL, 34}, {JOIN, 30, 0},
-        {FAIL, 38},
-    };
+    final int member;
+    final String[] calls;
 
-    private OwnSuccessor() {
+    OwnSuccessor(int member, String run) {
+        this.member = member;
+        calls = run.split(", ");
     }
 
-    static String written(int[] c) {
-        String[] names = {"depth", "found", "open", "join", "fail", "stabilise"};
-        return names[c[0]] + "(" + (c.length > 1 ? c[1] : "") + (c.length > 2 ? ", " + c[2] : "") + ")";
-    }
-
-    static int call(KeyRing ring, int[] c) {
-        switch (c[0]) {
-            case DEPTH:
-                return ring.depth(c[1]);
-            case FOUND:
-                return ring.found(c[1]);
-            case OPEN:
-                return ring.open();
-            case JOIN:
-                return ring.join(c[1], c[2]);
-            case FAIL:
-                return ring.fail(c[1]);
-            default:
-                return ring.stabilise(c[1]);
+    KeyRing ring() {
+        KeyRing x = new KeyRing();
+        for (String call : calls) {
+            Calls.answer(x, call);
         }
-    }
-
-    static int call(PlainRing ring, int[] c) {
-        switch (c[0]) {
-            case DEPTH:
-                return ring.depth(c[1]);
-            case FOUND:
-                return ring.found(c[1]);
-            case OPEN:
-                return ring.open();
-            case JOIN:
-                return ring.join(c[1], c[2]);
-            case FAIL:
-                return ring.fail(c[1]);
-            default:
-                return ring.stabilise(c[1]);
-        }
+        return x;
     }
 }

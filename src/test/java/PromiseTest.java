@@ -273,11 +273,8 @@ public final class PromiseTest {
     }
 
     private static void stabiliseAnOwnSuccessor() {
-        KeyRing x = new KeyRing();
-        for (int[] c : OwnSuccessor.CALLS) {
-            OwnSuccessor.call(x, c);
-        }
-        int p = OwnSuccessor.MEMBER;
+        KeyRing x = OwnSuccessor.WITH_PREDECESSOR.ring();
+        int p = OwnSuccessor.WITH_PREDECESSOR.member;
         dueList("34 and 38 failed", x, p, 34, 38, 22, 0);
         Check.due("it owns all it looks for", x.look(p, 21), p);
         Check.due("without a hop", x.count(6), 0);
@@ -286,6 +283,16 @@ public final class PromiseTest {
         Check.due("stabilise()", x.stabilise(p), 0);
         dueList("all others are between it and itself", x, p, 0, 22, 0, 1);
         Check.due("0 is told of it", x.known(0, -1), p);
+        KeyRing y = OwnSuccessor.WITHOUT_PREDECESSOR.ring();
+        int q = OwnSuccessor.WITHOUT_PREDECESSOR.member;
+        dueList("20 and 25 failed", y, q, 20, 25, 9, 27);
+        Check.due("7 failed too: stabilise()", y.stabilise(q), q);
+        dueList("taken over from itself", y, q, 9, 20, 25, 9);
+        Check.due("being told of itself changes nothing", y.known(q, -1), 7);
+        Check.state("it has no live one but itself", () -> y.fail(24));
+        Check.due("stabilise(27)", y.stabilise(27), q);
+        Check.due("it is told of 27", y.known(q, -1), 27);
+        Check.due("and finds it again", y.stabilise(q), 27);
     }
 
     private static void mend() {
@@ -301,9 +308,10 @@ public final class PromiseTest {
         Check.due("mending had one from 10 and one from 220", x.count(7), 2);
         x.join(100, 10);
         Check.due("as looked for, not as it is", x.mend(80, 4), 150);
-        Check.due("a finger mended by call is due all the same", x.mend(10, 0), 80);
+        Check.due("finger 0 is due", x.known(10, 10), KeyRing.NONE);
+        x.mend(10, 3);
         x.rounds(1);
-        Check.due("so finger 1 was not", x.known(10, 11), KeyRing.NONE);
+        Check.due("finger 0 was due all the same", x.known(10, 10), 80);
         KeyRing y = ring(2, 254, 255, 0, 2);
         Check.due("mend(254, 0)", y.mend(254, 0), 255);
         Check.due("mend(254, 1)", y.mend(254, 1), 0);
