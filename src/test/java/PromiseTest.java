@@ -1,6 +1,6 @@
 import java.util.function.IntSupplier;
 
-/** A method a promise, with answers worked out by hand from the document. */
+/** A method or more a promise; answers are worked out from the document, but for the lists that OwnSuccessor begins with. */
 public final class PromiseTest {
     // Keys by their points: 0 at 17, 1 at 78, 2 at 139, 3 at 200, 4 at 5, 6 at 127, 8 at 249, 63 at 20.
 
