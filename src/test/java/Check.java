@@ -4,13 +4,36 @@ import java.util.function.IntSupplier;
 final class Check {
     private static int made = 0;
     private static int wrong = 0;
+    private static String sentence = "";
 
     private Check() {
+    }
+
+    /** One sentence of the document and its test; a test that throws does not keep the others from running. */
+    static void sentence(String words, Runnable test) {
+        sentence = words;
+        int before = made;
+        try {
+            test.run();
+        } catch (RuntimeException e) {
+            tell("threw " + e);
+        }
+        if (made == before) {
+            tell("nothing was looked at");
+        }
+        sentence = "";
     }
 
     static void due(String call, long got, long want) {
         made++;
         if (got != want) {
+            tell(call + " answered " + got + ", due is " + want);
+        }
+    }
+
+    static void due(String call, String got, String want) {
+        made++;
+        if (!got.equals(want)) {
             tell(call + " answered " + got + ", due is " + want);
         }
     }
@@ -43,7 +66,7 @@ final class Check {
     static void tell(String words) {
         wrong++;
         if (wrong <= 40) {
-            System.out.println(words);
+            System.out.println(sentence.isEmpty() ? words : '"' + sentence + "\": " + words);
         }
     }
 
@@ -55,10 +78,6 @@ final class Check {
     }
 
     private static void refused(String call, IntSupplier run, String want) {
-        made++;
-        String got = answer(run);
-        if (!got.equals(want)) {
-            tell(call + " answered " + got + ", due is " + want);
-        }
+        due(call, answer(run), want);
     }
 }

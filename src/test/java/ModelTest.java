@@ -4,7 +4,10 @@ import java.util.Random;
 /** Runs of seeded calls on KeyRing and on PlainRing: every answer must be the same. */
 public final class ModelTest {
     private static final int RUNS = 2500;
+
+    // An object has 512 calls; the last ones ask what the others left behind.
     private static final int CALLS = 400;
+    private static final int ALL_CALLS = 512;
 
     private static int longestLook = 0;
     private static int wrongRuns = 0;
@@ -19,6 +22,7 @@ public final class ModelTest {
     private final int step;
 
     private boolean same = true;
+    private int made = 0;
 
     private ModelTest(int run) {
         this.run = run;
@@ -37,16 +41,16 @@ public final class ModelTest {
 
     private void play() {
         if (run % 10 == 7) {
-            beginWithAnOwnSuccessor(run % 20 == 7
-                    ? OwnSuccessor.WITH_PREDECESSOR : OwnSuccessor.WITHOUT_PREDECESSOR);
+            OwnSuccessor[] edges = OwnSuccessor.values();
+            beginWithAnOwnSuccessor(edges[run / 10 % edges.length]);
         } else {
             begin();
         }
-        for (int i = 0; same && i < CALLS; i++) {
+        while (same && made < CALLS) {
             call();
         }
-        if (same) {
-            compareAll();
+        while (same && made < ALL_CALLS) {
+            ask();
         }
         longestLook = Math.max(longestLook, plain.count(6));
         wrongRuns += same ? 0 : 1;
@@ -144,21 +148,22 @@ public final class ModelTest {
         }
     }
 
-    private void compareAll() {
-        both("ideal");
-        for (int what = 0; what < 8; what++) {
-            both("count", what);
-        }
-        for (int p = 0; p < 256; p += 5) {
-            both("owner", p);
-        }
-        for (int p : plain.livePoints()) {
-            for (int k = -1; k < 18; k++) {
-                both("known", p, k);
-            }
-            for (int i = 0; i < 192; i++) {
-                both("held", p, i / 3, i % 3);
-            }
+    private void ask() {
+        switch (random.nextInt(6)) {
+            case 0:
+                both("count", random.nextInt(8));
+                break;
+            case 1:
+                both("owner", somePoint());
+                break;
+            case 2:
+                both("ideal");
+                break;
+            case 3:
+                both("held", someMember(), someKey(), random.nextInt(3));
+                break;
+            default:
+                both("known", someMember(), random.nextInt(20) - 1);
         }
     }
 
@@ -174,6 +179,7 @@ public final class ModelTest {
         if (!same) {
             return;
         }
+        made++;
         told.append(call).append(" -> ").append(got).append("; ");
         same = got.equals(want);
         Check.due("run " + run + ": as PlainRing answers", same, true);

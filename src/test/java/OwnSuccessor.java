@@ -11,7 +11,14 @@ enum OwnSuccessor {
             + "join 9 11, fail 8, stabilise 27, stabilise 23, join 26 9, stabilise 9, stabilise 2, fail 23, "
             + "join 20 11, fail 11, stabilise 27, stabilise 9, join 25 20, fail 2, stabilise 25, stabilise 20, "
             + "stabilise 27, join 24 9, stabilise 25, stabilise 9, stabilise 9, join 7 25, stabilise 7, fail 25, "
-            + "join 0 9, fail 20, fail 7");
+            + "join 0 9, fail 20, fail 7"),
+
+    /** No other one of its list is live, and all others can do without it. */
+    ALONE_IN_ITS_LIST(9, "depth 4, found 23, found 2, found 11, found 8, found 15, open, join 27 8, fail 23, "
+            + "join 9 8, fail 8, stabilise 9, stabilise 2, join 20 27, fail 11, join 0 15, fail 15, join 25 0, "
+            + "stabilise 27, stabilise 9, fail 2, join 39 0, join 5 9, stabilise 25, stabilise 20, join 24 9, "
+            + "stabilise 0, stabilise 27, stabilise 25, stabilise 5, stabilise 25, join 34 24, stabilise 9, "
+            + "stabilise 9, fail 20, fail 5, fail 25, stabilise 9");
 
     final int member;
     final String[] calls;
